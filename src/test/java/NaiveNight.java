@@ -22,7 +22,7 @@ final class NaiveNight {
     private static final Pattern TOKEN = Pattern.compile(" *([a-z]+|[0-9]+|-[0-9]+|;)?");
 
     /** All that a change can change. */
-    private static final class State implements Cloneable {
+    private static final class State {
         int slots = 6;
         int[] moon = {0, 1, -10, 0, 0, 0};
         int[] sky = {50, 80, 30};
@@ -61,6 +61,7 @@ final class NaiveNight {
 
     /** Raised at the first error of a text. */
     private static final class TextError extends Exception {
+        private static final long serialVersionUID = 1L;
         final int code;
         final int position;
 
