@@ -18,6 +18,7 @@ public final class TelescopeNight {
     private static final int MOST_CHANGES = 8;
     private static final int CERTAIN = 1000000;
     private static final int TURN_BITS = 8;
+    private static final int MORE_THAN_ALL_TURNS = 256;
     private static final int MADE_BITS = 2;
 
     private static final int SKY_UNKNOWN = 0;
@@ -595,7 +596,7 @@ public final class TelescopeNight {
         int teamsInTurn(int made, int waived) {
             int counts = turnCounts(made);
             int taking = teams & ~waived;
-            int fewest = Integer.MAX_VALUE;
+            int fewest = MORE_THAN_ALL_TURNS;
             int mask = 0;
             for (int team = 0; team < TEAMS; team++) {
                 int turns = turnsIn(counts, team);
@@ -742,7 +743,7 @@ public final class TelescopeNight {
             }
         }
 
-        /** Reads a night into the draft and empties the buffer; tells whether there was no error. */
+        /** Reads a night into the draft and empties the buffer; tells whether it has no error. */
         boolean read(int length, Night draft) {
             end = Math.min(length, filled);
             at = 0;

@@ -942,7 +942,22 @@ public final class PromiseTest {
         check.is("39 undo look", 1, x::undo);
         check.is("39 unknown", 0, () -> x.count(5));
         check.is("39 answers are worked out again", 15475000, x::planValue);
+        undoARestart();
         undoEightAtMost();
+    }
+
+    private void undoARestart() {
+        TelescopeNight x = Check.nightOf(TWO_TEAMS);
+        x.look(true);
+        x.expose(0);
+        x.restart();
+        x.look(false);
+        x.pass();
+        check.is("39 undo pass", 5, x::undo);
+        check.is("39 undo look", 4, x::undo);
+        check.is("39 undo restart", 3, x::undo);
+        check.is("39 the target of the past is back", 0, () -> x.past(0, 0));
+        check.is("39 the sky of the past is back", 1, () -> x.past(0, 1));
     }
 
     private void undoEightAtMost() {

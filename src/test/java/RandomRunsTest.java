@@ -34,6 +34,9 @@ public final class RandomRunsTest {
                 loadNight();
             }
             change();
+            for (int k = random.nextInt(20) == 0 ? random.nextInt(9) : 0; k > 0; k--) {
+                compare("undo", night::undo, naive::undo);
+            }
             for (int k = random.nextInt(6); k > 0; k--) {
                 ask();
             }
