@@ -181,6 +181,12 @@ public final class PromiseTest {
         text("night", -2, 5);
         text("nigh 6;", -2, 0);
         text("nights 6;", -2, 0);
+        text("nightz 6;", -2, 0);
+        text("nighta 6;", -2, 0);
+        text("night{6;", -2, 5);
+        text("night`6;", -2, 5);
+        text("night 6:;", -2, 7);
+        text("night 6/;", -2, 7);
         text(" Night 6;", -2, 1);
         text("moon 0 0 0 0 0 0;night 6;", -2, 0);
         text("6;", -2, 0);
