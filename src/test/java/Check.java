@@ -19,16 +19,22 @@ final class Check {
 
     private final String name;
     private final List<String> faults = new ArrayList<>();
+    private String subject = "";
     private int calls;
 
     Check(String name) {
         this.name = name;
     }
 
+    /** What the answers that follow are about; a fault tells it. */
+    void about(String newSubject) {
+        subject = newSubject.isEmpty() ? "" : "[" + newSubject + "] ";
+    }
+
     void same(String what, String got, String due) {
         calls++;
         if (!got.equals(due)) {
-            faults.add(what + " answered " + got + ", due is " + due);
+            faults.add(subject + what + " answered " + got + ", due is " + due);
         }
     }
 
@@ -38,6 +44,10 @@ final class Check {
 
     void refuses(String what, Class<? extends RuntimeException> due, Call call) {
         same(what, outcome(call), "throws." + due.getSimpleName());
+    }
+
+    int calls() {
+        return calls;
     }
 
     boolean hasManyFaults() {
