@@ -66,12 +66,17 @@ final class ChangeEdges {
         change("restart of a night that is over", "clear x0 clear x1 pass pass", 7, Edges::restart);
         undoneLoads();
         noChanges();
+        askInAllOrders();
     }
 
     /** A call that is one change: undone, it leaves all as it was, and all changes before it. */
     private void change(String what, String moves, int before, Edges.Use use) {
         TelescopeNight x = pair(moves).get();
+        TelescopeNight quiet = pair(moves).get();
+        Edges.now(x);
         use.on(x);
+        use.on(quiet);
+        check.same(what + ", and what was asked before", Edges.now(x), Edges.now(quiet));
         check.is(what + " is one change", before, x::undo);
         check.same(what + " is undone", Edges.future(x), Edges.future(pair(moves).get()));
     }
@@ -91,6 +96,30 @@ final class ChangeEdges {
         TelescopeNight same = Check.nightOf(LONG);
         Check.load(same, LONG);
         check.is("a load of the same night is a change, too", 1, same::undo);
+    }
+
+    private static final Edges.Use[] ASKED = {
+        x -> x.errorPosition(), x -> x.count(4), x -> x.height(0, 3), x -> x.moonHeight(3),
+        x -> x.moonDistance(1, 2), x -> x.window(0), x -> x.observable(3), x -> x.highestSlot(1),
+        x -> x.latestStart(0), x -> x.clearOdds(3), x -> x.clearRun(0, 3), x -> x.inTurn(),
+        x -> x.turnsOf(0), x -> x.exposures(0), x -> x.past(0, 0), x -> x.planValue(),
+        x -> x.planned(3), x -> x.planValueWith(3, 0), x -> x.planValueWith(2, 1), x -> x.planCount(),
+        x -> x.worth(0), x -> x.worth(1), x -> x.priceOfTurns(), x -> x.mostExposures(true),
+        x -> x.mostExposures(false), x -> x.greedyValue(), x -> x.meanValue(), x -> x.meanValueOf(1),
+        x -> x.decision(), x -> x.meanExposures(0), x -> x.meanExposures(1), x -> x.finishOdds(0),
+        x -> x.finishOdds(1), x -> x.greedyMean(), x -> x.worthOfClear()};
+
+    /** What is asked first does not matter for what is asked next. */
+    private void askInAllOrders() {
+        for (int first = 0; first < ASKED.length; first++) {
+            for (int next = 0; next < ASKED.length; next++) {
+                TelescopeNight x = pair("clear x0 clear").get();
+                TelescopeNight quiet = pair("clear x0 clear").get();
+                ASKED[first].on(x);
+                Edges.Use use = ASKED[next];
+                check.is("question " + next + " behind question " + first, use.on(quiet), () -> use.on(x));
+            }
+        }
     }
 
     /** What only asks is no change, nor is append. */
@@ -296,6 +325,12 @@ final class ChangeEdges {
         }
         check.is("undo the load", 0, x::undo);
         check.same("as at first", Edges.now(x), Edges.now(new TelescopeNight()));
+        // The past of a night comes back, though another one has begun and gone on since.
+        TelescopeNight again = pair("clear x0 cloudy pass restart pass pass").get();
+        check.is("undo a pass", 7, again::undo);
+        again.undo();
+        check.is("undo the restart", 5, again::undo);
+        check.same("as before the restart", Edges.now(again), Edges.now(pair("clear x0 cloudy pass").get()));
         // What has been undone is gone: a new change takes its place.
         TelescopeNight other = pair("clear x0 undo undo cloudy").get();
         check.is("undo the clouds", 1, other::undo);

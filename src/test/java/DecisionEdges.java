@@ -221,6 +221,16 @@ final class DecisionEdges {
                 x -> x.meanValue());
         edges.is("0 percent", 0, Edges.at("night 2;sky 0 100 0;" + seenIn1(1), "pass"),
                 x -> x.meanValue());
+        // The clear odds of slot 2 are one millionth below a whole number of percents.
+        notLookedAtInSlot2("99 0 1", 9999, 0);
+        notLookedAtInSlot2("19 18 7", 79999, 70000);
+        notLookedAtInSlot2("99 100 99", 999999, 990000);
+    }
+
+    private void notLookedAtInSlot2(String sky, int odds, int due) {
+        String text = "night 3;sky " + sky + ";target 0 80 30 2 80 0 0 1 1;";
+        edges.is("odds of sky " + sky, odds, Edges.at(text, "pass pass"), x -> x.clearOdds(2));
+        edges.is("mean value of sky " + sky, due, Edges.at(text, "pass pass"), x -> x.meanValue());
     }
 
     private void leastAndGreatest() {

@@ -199,10 +199,12 @@ final class TextEdges {
 
     private void words() {
         for (String word : new String[] {"nigh", "nights", "anight", "nightnight", "nightz", "nighta",
+            "xight", "nighx", "nixht",
             "Night", "NIGHT", "n", "sky", "x"}) {
             edges.text(word + " 1;", -2, 0);
         }
-        for (String word : new String[] {"moo", "moons", "skyy", "sk", "targe", "targets", "skymoon"}) {
+        for (String word : new String[] {"moo", "moons", "skyy", "sk", "targe", "targets", "skymoon", "xoon",
+            "moox", "xky", "skx", "sxy", "xarget", "targex", "tarxet"}) {
             edges.text("night 1;" + word + " 1 1 1;", -2, 8);
         }
         // The neighbours of a and z are no letters, so the word ends in front of them.
