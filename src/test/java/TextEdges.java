@@ -248,6 +248,10 @@ final class TextEdges {
         edges.text("night 1;moon 1 1 +1 1 1 1;", -2, 17);
         edges.text("night 1;moon 1 1 1- 1 1 1;", -2, 18);
         edges.text("night 1;target 1 1 1 - 1 1 1 1 1 1;", -2, 21);
+        // A minus sign as the last byte is itself what is not allowed.
+        edges.text("night 1;moon 1 1 -", -2, 17);
+        edges.text("night 1;target 1 1 1 -", -2, 21);
+        edges.text(" ".repeat(482) + "night 1;moon 1 1 -", -2, 499);
         noMinusSign("moon", 6, 2);
         noMinusSign("sky", 3, -1);
         noMinusSign("target", 9, 3);
@@ -397,6 +401,9 @@ final class TextEdges {
             boolean good = text.endsWith(";");
             edges.text(text, good ? 0 : -2, good ? -1 : text.length());
             edges.text(text + "  ", good ? 0 : -2, good ? -1 : text.length() + 2);
+            // The end of the text is the end of the full buffer.
+            edges.text(padded(text, 500), good ? 0 : -2, good ? -1 : 500);
+            edges.text(" ".repeat(500 - text.length()) + text, good ? 0 : -2, good ? -1 : 500);
         }
         // The text is as long as load is told, whatever stands behind it in the buffer.
         edges.is("the end is in front of the semicolon", 7, () -> {
@@ -516,6 +523,30 @@ final class TextEdges {
             x.load(8);
             return x;
         }, x -> x.clearOdds(0));
+        firstBytesAlone("night 12;moon 11 11 -11 11 11 11;sky 11 11 11;target 1 11 11 -10 11 11 11 1 11;");
+        firstBytesAlone("night 11;moon 11 11 -10 11 11 11;sky 11 11 11;target 1 11 11 -10 11 11 11 1 11;");
+    }
+
+    /** Neither the bytes behind the length matter, nor those that an earlier load has read. */
+    private void firstBytesAlone(String text) {
+        for (int length = 0; length <= text.length(); length++) {
+            String first = text.substring(0, length);
+            String due = loaded(new TelescopeNight(), padded(first, text.length()), length);
+            check.same("'" + first + "' with bytes behind it", loaded(new TelescopeNight(), text, length), due);
+            TelescopeNight used = new TelescopeNight();
+            Check.load(used, "x".repeat(500));
+            used.load(0);
+            check.same("'" + first + "' behind letters", loaded(used, first, length), due);
+            TelescopeNight digits = new TelescopeNight();
+            Check.load(digits, "1".repeat(500));
+            digits.load(0);
+            check.same("'" + first + "' behind digits", loaded(digits, first, length), due);
+        }
+    }
+
+    private static String loaded(TelescopeNight x, String text, int length) {
+        Check.fill(x, text);
+        return Check.outcome(() -> x.load(length)) + " " + Edges.now(x);
     }
 
     private static TelescopeNight filledWith(String text) {
