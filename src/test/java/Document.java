@@ -63,6 +63,17 @@ final class Document {
         return found;
     }
 
+    /** What the class has, by the lines of the public face that tell of a member of it. */
+    List<String> face() {
+        List<String> found = new ArrayList<>();
+        for (String line : lines.getOrDefault("The public face", List.of())) {
+            if (line.startsWith("    ")) {
+                found.add(line.trim());
+            }
+        }
+        return found;
+    }
+
     /** The promises' places. */
     List<String> promises() {
         List<String> found = new ArrayList<>();

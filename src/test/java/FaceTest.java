@@ -6,47 +6,65 @@ import java.lang.reflect.Modifier;
 import java.nio.file.Files;
 import java.nio.file.Path;
 import java.util.Arrays;
+import java.util.List;
 import java.util.Set;
 import java.util.TreeSet;
 import java.util.regex.Matcher;
 import java.util.regex.Pattern;
+import java.util.stream.Collectors;
 
-/** The public face as the document writes it, and what the source may not hold. */
+/** The public face, line by line as the document writes it, and what the source may not hold. */
 public final class FaceTest {
     private static final Path SOURCE = Path.of("src/main/java/TelescopeNight.java");
-    private static final String[] FACE = {
-        "int append(int,int,int,int,int)", "int load(int)", "int errorPosition()", "int count(int)",
-        "int height(int,int)", "int moonHeight(int)", "int moonDistance(int,int)", "int window(int)",
-        "int observable(int)", "int highestSlot(int)", "int latestStart(int)", "int clearOdds(int)",
-        "int clearRun(int,int)", "int look(boolean)", "int expose(int)", "int pass()",
-        "int waive(int)", "void restart()", "int inTurn()", "int turnsOf(int)", "int exposures(int)",
-        "int past(int,int)", "long planValue()", "int planned(int)", "long planValueWith(int,int)",
-        "long planCount()", "long worth(int)", "long priceOfTurns()", "int mostExposures(boolean)",
-        "long greedyValue()", "long meanValue()", "long meanValueOf(int)", "int decision()",
-        "long meanExposures(int)", "long finishOdds(int)", "long greedyMean()", "long worthOfClear()",
-        "int undo()"};
     private static final String[] NOT_IN_THE_SOURCE = {
         "\\bcatch\\b", "\\bfinally\\b", "\\bsynchronized\\b", "\\bassert\\b", "->", "::", "\\bdouble\\b",
         "\\bfloat\\b", "\\bRandom\\b", "\\bSystem\\.(?!arraycopy)", "\\bThread\\b", "Exact\\(",
         "\\bstatic\\s*\\{", "^package\\b", "\\bpublic static final class\\b", "\\bnew \\w*Exception\\([^\")]"};
 
+    private static final Pattern METHOD = Pattern.compile("public (int|long|void) (\\w+)\\(.*\\).*;");
+    private static final Pattern CONSTANT = Pattern.compile("public static final int (\\w+) = (.*);");
+    private static final Pattern CONSTRUCTOR = Pattern.compile("public TelescopeNight\\(\\);");
+
     private final Check check = new Check("FaceTest");
+    private final List<String> face = new Document().face();
 
     public static void main(String[] args) throws IOException {
         FaceTest test = new FaceTest();
+        test.lookAtTheDocument();
         test.lookAtMethods();
+        test.lookAtTheWords();
         test.lookAtTheRest();
         test.lookAtClassesInside();
         test.lookAtTheSource();
         test.check.end();
     }
 
+    /** Each line of the document's face is of a form that is looked at below. */
+    private void lookAtTheDocument() {
+        check.same("methods of the document", "" + lines(METHOD).size(), "38");
+        check.same("constants of the document", "" + lines(CONSTANT).size(), "4");
+        check.same("constructors of the document", "" + lines(CONSTRUCTOR).size(), "1");
+        check.same("lines of the document", "" + face.size(), "" + (38 + 4 + 1));
+    }
+
+    private List<String> lines(Pattern form) {
+        return face.stream().filter(line -> form.matcher(line).matches()).toList();
+    }
+
     private static String form(Method method) {
-        StringBuilder text = new StringBuilder(method.getReturnType() + " " + method.getName() + "(");
-        for (Class<?> type : method.getParameterTypes()) {
-            text.append(text.charAt(text.length() - 1) == '(' ? "" : ",").append(type);
-        }
-        return text.append(")").toString();
+        return method.getReturnType() + " " + method.getName() + "(" + names(method.getParameterTypes())
+                + ") throws " + names(method.getExceptionTypes());
+    }
+
+    private static String names(Class<?>[] types) {
+        return Arrays.stream(types).map(Class::getSimpleName).collect(Collectors.joining(","));
+    }
+
+    /** A line of the document in the form that reflection gives. */
+    private static String form(String line) {
+        String withThrows = line.contains(" throws ") ? line : line.replace(";", " throws ;");
+        return withThrows.replaceAll("^public |;$", "").replaceAll("(int|boolean) \\w+(?=[,)])", "$1")
+                .replace(", ", ",");
     }
 
     private void lookAtMethods() {
@@ -57,7 +75,19 @@ public final class FaceTest {
                 check.same(method + " is public alone", "" + method.getModifiers(), "" + Modifier.PUBLIC);
             }
         }
-        check.same("the methods", found.toString(), new TreeSet<>(Arrays.asList(FACE)).toString());
+        Set<String> due = new TreeSet<>();
+        lines(METHOD).forEach(line -> due.add(form(line)));
+        check.same("the methods", found.toString(), due.toString());
+    }
+
+    /** The parameters' names and the constants' values can be seen in the source alone. */
+    private void lookAtTheWords() throws IOException {
+        String source = Files.readString(SOURCE).replaceAll("\\s+", " ");
+        for (String line : face) {
+            boolean constant = CONSTANT.matcher(line).matches();
+            String due = constant ? line : line.replace(";", " {");
+            check.same("the source has '" + due + "'", "" + source.contains(due), "true");
+        }
     }
 
     private void lookAtTheRest() {
@@ -67,24 +97,27 @@ public final class FaceTest {
                 fields.add(Modifier.toString(field.getModifiers()) + " " + field.getName());
             }
         }
-        check.same("the constants", fields.toString(), "[public static final NONE, "
-                + "public static final SYNTAX_ERROR, public static final TOO_MANY, "
-                + "public static final VALUE_ERROR]");
+        Set<String> due = new TreeSet<>();
+        lines(CONSTANT).forEach(line -> due.add(line.replaceAll(" int | = .*", " ").trim()));
+        check.same("the constants", fields.toString(), due.toString());
         Constructor<?>[] constructors = TelescopeNight.class.getDeclaredConstructors();
         check.same("the constructors", Arrays.toString(constructors), "[public TelescopeNight()]");
         check.same("the class", Modifier.toString(TelescopeNight.class.getModifiers()), "public final");
     }
 
     private void lookAtClassesInside() {
-        Set<String> face = new TreeSet<>();
-        for (String form : FACE) {
-            face.add(form.replaceAll(".* |\\(.*", ""));
+        Set<String> names = new TreeSet<>();
+        lines(METHOD).forEach(line -> names.add(METHOD.matcher(line).replaceAll("$2")));
+        for (Method method : TelescopeNight.class.getDeclaredMethods()) {
+            boolean hidden = Modifier.isPrivate(method.getModifiers());
+            boolean taken = hidden && names.contains(method.getName());
+            check.same(method + " has a name of its own", "" + taken, "false");
         }
         for (Class<?> inside : TelescopeNight.class.getDeclaredClasses()) {
             check.same(inside + " is static", "" + Modifier.isStatic(inside.getModifiers()), "true");
             check.same(inside + " is not public", "" + Modifier.isPublic(inside.getModifiers()), "false");
             for (Method method : inside.getDeclaredMethods()) {
-                check.same(method + " has a name of its own", "" + face.contains(method.getName()), "false");
+                check.same(method + " has a name of its own", "" + names.contains(method.getName()), "false");
             }
         }
     }
